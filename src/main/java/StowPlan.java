@@ -462,10 +462,11 @@ public final class StowPlan {
         return pairs;
     }
 
+    /** Looks down one stack alone, which is all that a fill needs: its boxes are of one bay. */
     private int overstowsBelow(Box upper) {
         int pairs = 0;
-        for (int number = 0; number < boxCount; number++) {
-            Box lower = boxOf(number);
+        for (int tier = 0; tier < upper.tier; tier++) {
+            Box lower = boxIn(upper.bay, upper.row, tier);
             if (lower != null && upper.overstows(lower)) {
                 pairs++;
             }
@@ -486,7 +487,7 @@ public final class StowPlan {
         }
     }
 
-    /** Ways are met in their order, so that of equally good ones the first is kept. */
+    /** Ways are met in the document's order, so that of equally good ones the first is kept. */
     private void extendTrial(int bay, int depth) {
         if (trial.isBetterThan(best)) {
             best.become(trial);
@@ -505,8 +506,8 @@ public final class StowPlan {
         if (box == null || box.lies() || !layOnStack(box, bay, row)) {
             return;
         }
-        int made = overstowsBelow(box);
         boolean fits = !makesStackTooHeavy(box) && !standsOnLighter(box) && !lacksPlug(box);
+        int made = fits ? overstowsBelow(box) : 0;
         if (fits && !isHopeless(trial.overstows + made)) {
             trial.add(box, row, made);
             extendTrial(bay, depth + 1);

@@ -230,6 +230,13 @@ public final class StowPlanPromises {
         faultsDue("the first one is too heavy", x, "2:0");
         due("most", bit(x.load(1, 200)), 1);
         faultsDue("200", x, "");
+        StowPlan first = new StowPlan(1, 1, 5);
+        lay(first, 20, 40, 0, 0, 0);
+        lay(first, 20, 40, 0, 0, 1);
+        lay(first, 20, 20, 0, 0, 2);
+        faultsDue("100 at first, 100 lie", first, "");
+        int more = lay(first, 20, 1, 0, 0, 3);
+        faultsDue("100 at first, 101 lie", first, "2:" + more);
     }
 
     private static void promise6() {
@@ -279,7 +286,11 @@ public final class StowPlanPromises {
 
     private static void promise8Empty() {
         StowPlan x = new StowPlan(2, 1, 4);
-        due("no faults", x.check(), 0);
+        x.load(0, 1);
+        x.box(40, 40, 1, 2);
+        x.box(20, 40, 1, 1);
+        due("boxes that lie nowhere make no faults", x.check(), 0);
+        x.load(0, 100);
         int a = lay(x, 20, 9, 0, 0, 0);
         faultsDue("the lowest tier", x, "");
         int b = lay(x, 20, 8, 0, 0, 2);
@@ -554,6 +565,10 @@ public final class StowPlanPromises {
         due("of port 1", over(y, 1), 3);
         due("of port 5", over(y, 5), 2);
         due("of port 6", over(y, 6), 0);
+        StowPlan turned = new StowPlan(1, 1, 2);
+        layOf(turned, 20, 9, 5, 0, 0, 0, 1);
+        layOf(turned, 20, 9, 4, 0, 0, 0, 0);
+        due("the upper one is the first box", over(turned, 4), 1);
         int z = y.box(20, 1, 1, 0);
         due("a box that lies nowhere", over(y, 0), 5);
         y.put(z, 0, 0, 3);
