@@ -10,8 +10,10 @@ import java.util.Set;
  * words as plainly as can be: nothing is kept but where boxes lie, and a fill tries every way.
  */
 public final class StowPlanAgainstModel {
-    private static final int RUNS = 1200;
-    private static final int CALLS = 160;
+    private static final int RUNS = 3000;
+    // What an object answers behind its 512th call is free.
+    private static final int MOST_CALLS = 512;
+    private static final int CALLS_BEFORE_ALL = 340;
     private static final int THROWS_IAE = -1001;
     private static final int THROWS_ISE = -1002;
     private static final int THROWS_IOOBE = -1003;
@@ -392,6 +394,7 @@ public final class StowPlanAgainstModel {
     private final Model model;
     private final int heaviest;
     private boolean agrees = true;
+    private int calls = 0;
 
     private StowPlanAgainstModel(int run) {
         this.run = run;
@@ -423,6 +426,7 @@ public final class StowPlanAgainstModel {
     }
 
     private void same(String call, int got, int want) {
+        calls++;
         told.append("; ").append(call).append(" = ").append(got);
         if (got != want && agrees) {
             agrees = false;
@@ -500,61 +504,73 @@ public final class StowPlanAgainstModel {
         }
     }
 
-    private void askSomething() {
-        int port = near(7);
-        same("over(" + port + ")", outcome(() -> plan.over(port)), model.over(port));
-        int what = near(16);
-        same("count(" + what + ")", outcome(() -> plan.count(what)), model.count(what));
-        int box = someBox();
-        int part = near(7);
-        same("look(" + box + ", " + part + ")", outcome(() -> plan.look(box, part)), model.look(box, part));
-        int bay = near(model.bays);
-        int row = near(model.rows);
-        int tier = near(model.tiers);
-        same("at(" + bay + ", " + row + ", " + tier + ")",
-            outcome(() -> plan.at(bay, row, tier)), model.lookedAt(bay, row, tier));
-        int i = near(8);
-        int of = near(5);
-        same("fault(" + i + ", " + of + ")", outcome(() -> plan.fault(i, of)), model.fault(i, of));
+    private void askSomething(int draw) {
+        if (draw == 0) {
+            askOver(near(7));
+        } else if (draw == 1) {
+            askCount(near(16));
+        } else if (draw == 2) {
+            askLook(someBox(), near(7));
+        } else if (draw == 3) {
+            askAt(near(model.bays), near(model.rows), near(model.tiers));
+        } else if (draw == 4) {
+            askFault(near(8), near(5));
+        } else {
+            same("check()", outcome(() -> plan.check()), model.faults().size());
+        }
     }
 
+    private void askOver(int port) {
+        same("over(" + port + ")", outcome(() -> plan.over(port)), model.over(port));
+    }
+
+    private void askCount(int what) {
+        same("count(" + what + ")", outcome(() -> plan.count(what)), model.count(what));
+    }
+
+    private void askLook(int box, int what) {
+        same("look(" + box + ", " + what + ")", outcome(() -> plan.look(box, what)), model.look(box, what));
+    }
+
+    private void askAt(int bay, int row, int tier) {
+        same("at(" + bay + ", " + row + ", " + tier + ")",
+            outcome(() -> plan.at(bay, row, tier)), model.lookedAt(bay, row, tier));
+    }
+
+    private void askFault(int i, int what) {
+        same("fault(" + i + ", " + what + ")", outcome(() -> plan.fault(i, what)), model.fault(i, what));
+    }
+
+    /** Asks for all that the calls left to a run allow. */
     private void askAll() {
-        List<int[]> faults = model.faults();
-        same("check()", outcome(() -> plan.check()), faults.size());
-        for (int n = 0; n < faults.size(); n++) {
-            int i = n;
-            for (int p = 0; p < 5; p++) {
-                int what = p;
-                same("fault(" + i + ", " + what + ")", outcome(() -> plan.fault(i, what)), faults.get(i)[what]);
+        int faults = model.faults().size();
+        for (int i = 0; i <= faults && calls < MOST_CALLS; i++) {
+            askFault(i, 0);
+        }
+        for (int what = 4; what < 7; what++) {
+            for (int box = 0; box <= model.boxes.size() && calls < MOST_CALLS; box++) {
+                askLook(box, what);
             }
         }
-        for (int b = 0; b < model.boxes.size(); b++) {
-            int box = b;
-            for (int p = 4; p < 7; p++) {
-                int what = p;
-                same("look(" + box + ", " + what + ")", outcome(() -> plan.look(box, what)), model.look(box, what));
-            }
+        for (int port = 0; port < 7 && calls < MOST_CALLS; port++) {
+            askOver(port);
         }
-        for (int p = 0; p < 7; p++) {
-            int port = p;
-            same("over(" + port + ")", outcome(() -> plan.over(port)), model.over(port));
+        for (int i = 0; i < faults * 4 && calls < MOST_CALLS; i++) {
+            askFault(i / 4, i % 4 + 1);
         }
     }
 
     private boolean agree() {
-        for (int call = 0; call < CALLS && agrees; call++) {
-            int length = told.length();
+        while (agrees && calls < CALLS_BEFORE_ALL) {
             changeSomething(random.nextInt(100));
             int changed = told.length();
-            askSomething();
-            if (call % 5 == 4) {
-                askAll();
-            }
+            askSomething(random.nextInt(6));
             // Answers to questions change nothing: they are left out of what is told of a run.
-            if (agrees && changed > length) {
+            if (agrees) {
                 told.setLength(changed);
             }
         }
+        askAll();
         return agrees;
     }
 
