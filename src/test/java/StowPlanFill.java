@@ -181,19 +181,31 @@ public final class StowPlanFill extends Sentences {
         due("where they lie", x.rowsAndTiers(2), "1/1 1/0");
     }
 
-    private static void otherFaultsDoNotMatter() {
+    private static void fault1DoesNotMatter() {
         Ship x = new Ship(1, 1, 3);
+        x.lay(20, 5, 0, 0, 1);
+        x.box(20, 5);
+        due("above an empty cell", x.fill(0), 1);
+        due("is told", x.faults(), "1:0 1:1");
+    }
+
+    private static void fault5DoesNotMatter() {
+        Ship x = new Ship(1, 1, 2);
         x.box(20, 5, 1, HIGH);
         x.box(20, 5, 1, HIGH);
-        x.lay(20, 5, 0, 0, 0);
-        x.apart(0, 1, true);
-        due("faults 5 and 6", x.fill(0), 2);
-        due("are told", x.faults(), "5:0 6:0 5:1");
-        Ship y = new Ship(1, 1, 3);
-        y.lay(20, 5, 0, 0, 1);
-        y.box(20, 5);
-        due("fault 1", y.fill(0), 1);
-        due("is told", y.faults(), "1:0 1:1");
+        due("in the highest tier, and below something", x.fill(0), 2);
+        due("are told", x.faults(), "5:0 5:1");
+    }
+
+    private static void fault6DoesNotMatter() {
+        for (int free = 0; free < 2; free++) {
+            Ship x = new Ship(1, 1, 2);
+            x.boxes(2, 20, 5);
+            x.apart(0, 1, true);
+            x.put(1 - free, 0, 0, 0);
+            due("box " + free + " onto one it is kept apart from", x.fill(0), 1);
+            due("is told", x.faults(), "6:0");
+        }
     }
 
     // Of such ways.
@@ -241,6 +253,33 @@ public final class StowPlanFill extends Sentences {
         z.box(20, 5, 2, PLAIN);
         due("not all can be put", z.fill(0), 1);
         due("the one without an overstow", z.at(0, 0, 1), 2);
+    }
+
+    /** Weights allow one order alone: two rows of two have two overstows, any other way has more. */
+    private static void fewestInSum() {
+        Ship x = new Ship(1, 2, 5);
+        for (int port = 1; port <= 4; port++) {
+            x.box(20, 5 - port, port, PLAIN);
+        }
+        due("all", x.fill(0), 4);
+        due("where they lie", x.rowsAndTiers(4), "0/0 0/1 1/0 1/1");
+        due("overstows", x.over(0), 2);
+
+        Ship y = new Ship(1, 1, 2);
+        y.box(20, 3, 2, PLAIN);
+        y.box(20, 3, 1, PLAIN);
+        y.box(20, 1, 4, PLAIN);
+        due("two of three", y.fill(0), 2);
+        due("those without an overstow", y.rowsAndTiers(3), "0/0 0/1 -");
+    }
+
+    private static void asManyOverstows() {
+        Ship x = new Ship(1, 1, 2);
+        x.box(20, 1, 2, PLAIN);
+        x.box(20, 1, 3, PLAIN);
+        x.layPort(20, 1, 0, 0, 0);
+        due("one cell, an overstow by either", x.fill(0), 1);
+        due("the first", x.at(0, 0, 1), 0);
     }
 
     private static void firstBoxByNumber() {
@@ -342,12 +381,18 @@ public final class StowPlanFill extends Sentences {
         sentence("makes faults 2, 3", StowPlanFill::fault3);
         sentence("3 or 4", StowPlanFill::fault4);
         sentence("where it is put then", StowPlanFill::whereItIsPutThen);
-        sentence("faults 2, 3 or 4", StowPlanFill::otherFaultsDoNotMatter);
+        sentence("faults 2, 3 or 4", () -> {
+            fault1DoesNotMatter();
+            fault5DoesNotMatter();
+            fault6DoesNotMatter();
+        });
         sentence("of such ways one with the fewest OVERSTOWS of all the bay", () -> {
             fewestOverstows();
             fewestOfTheirOwn();
+            fewestInSum();
         });
         sentence("of such the first: the first put box by number", () -> {
+            asManyOverstows();
             firstBoxByNumber();
             boxBeforeRow();
         });

@@ -92,13 +92,13 @@ public final class StowPlanTerms extends Sentences {
 
     private static void weights() {
         Ship x = new Ship(1, 1, 1);
-        for (int weight = -50; weight <= 90; weight++) {
-            boolean can = weight >= 1 && weight <= 40;
-            due("weight " + weight, x.box(20, weight), can ? weight - 1 : IAE);
+        for (int weight = 1; weight <= 40; weight++) {
+            due("weight " + weight, x.box(20, weight), weight - 1);
         }
         Ship y = new Ship(1, 1, 1);
-        for (int weight : new int[] {1 + 256, 40 - 256, 1 + 65536, LEAST, LEAST + 1, MOST}) {
-            due("weight " + weight, y.box(40, weight), IAE);
+        for (int weight : new int[] {0, -1, -40, 41, 42, 80, 1 + 256, 40 - 256, 1 + 65536, LEAST, LEAST + 1, MOST}) {
+            due("20 of weight " + weight, y.box(20, weight), IAE);
+            due("40 of weight " + weight, y.box(40, weight), IAE);
         }
     }
 
